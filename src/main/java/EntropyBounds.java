@@ -94,6 +94,7 @@ public final class EntropyBounds {
         return weights.replace(s, w);
     }
 
+    /** The document names the machine's own exceptions; they are thrown here before it would. */
     public long share(int s) throws ArithmeticException, ArrayIndexOutOfBoundsException {
         if (!isSign(s)) {
             throw new ArrayIndexOutOfBoundsException("no such sign");
