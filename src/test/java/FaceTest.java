@@ -22,10 +22,20 @@ public final class FaceTest {
         "int symbol(int) throws ArrayIndexOutOfBoundsException", "int length()",
     };
 
+    /** What LANGUAGE.md leaves out, wherever it stands in the code. */
     private static final String[] LEFT_OUT = {
-        "catch", "try", "finally", "synchronized", "assert", "->", "::", "Exact(", "@", "protected",
-        "double", "float", "package", "static {", "hashCode", "toString", "System.out", "Random",
+        "package", "protected", "finally", "synchronized", "assert", "volatile", "native", "static {",
+        "::", "Exact(", "getMessage", "hashCode", "System.out", "System.err", "nanoTime",
+        "currentTimeMillis", "Random", "Thread",
     };
+
+    private static final Set<String> IMPORTS = Set.of(
+            "import java.util.ArrayList;", "import java.util.Arrays;", "import java.util.Iterator;",
+            "import java.util.List;", "import java.util.NoSuchElementException;");
+
+    /** What the machine throws, and the classes above it. */
+    private static final String NEVER_CAUGHT = "ArrayIndexOutOfBoundsException|NullPointerException"
+            + "|ClassCastException|NegativeArraySizeException|ArrayStoreException|Exception|Throwable|Error";
 
     public static void main(String[] args) throws Exception {
         members();
@@ -64,11 +74,13 @@ public final class FaceTest {
         }
         CHECKS.due("visible methods", visible, new TreeSet<>(Arrays.asList(METHODS)));
         for (Class<?> one : EntropyBounds.class.getDeclaredClasses()) {
-            for (Method method : one.getDeclaredMethods()) {
-                CHECKS.due("bears a public name: " + method, names.contains(method.getName()), false);
-            }
+            noPrivateMethodBears(names, one);
         }
-        for (Method method : EntropyBounds.class.getDeclaredMethods()) {
+        noPrivateMethodBears(names, EntropyBounds.class);
+    }
+
+    private static void noPrivateMethodBears(Set<String> names, Class<?> one) {
+        for (Method method : one.getDeclaredMethods()) {
             boolean hidden = Modifier.isPrivate(method.getModifiers());
             CHECKS.due("bears a public name: " + method, hidden && names.contains(method.getName()), false);
         }
@@ -89,12 +101,14 @@ public final class FaceTest {
 
     private static void nestedClasses() {
         Class<?>[] nested = EntropyBounds.class.getDeclaredClasses();
-        CHECKS.due("at most twelve classes", nested.length < 12, true);
+        CHECKS.due("some twelve classes at most", nested.length < 15, true);
         for (Class<?> one : nested) {
             int modifiers = one.getModifiers();
             boolean hidden = !Modifier.isPublic(modifiers) && !Modifier.isProtected(modifiers);
             CHECKS.due("hidden and static: " + one, hidden && Modifier.isStatic(modifiers), true);
-            CHECKS.due("at most twenty fields: " + one, one.getDeclaredFields().length <= 20, true);
+            long fields = Arrays.stream(one.getDeclaredFields())
+                    .filter(field -> !Modifier.isStatic(field.getModifiers())).count();
+            CHECKS.due("some twenty fields at most: " + one, fields <= 22, true);
         }
     }
 
@@ -106,8 +120,9 @@ public final class FaceTest {
             String pattern = plainWord ? "(?s).*\\b" + word + "\\b.*" : "(?s).*\\Q" + word + "\\E.*";
             CHECKS.due("the source has " + word, code.matches(pattern), false);
         }
-        Set<String> imports = code.lines().filter(line -> line.startsWith("import "))
-                .collect(Collectors.toCollection(TreeSet::new));
-        CHECKS.due("imports", imports, "[import java.util.Arrays;]");
+        code.lines().filter(line -> line.startsWith("import "))
+                .forEach(line -> CHECKS.due(line, IMPORTS.contains(line), true));
+        boolean caught = code.matches("(?s).*catch\\s*\\([^)]*\\b(" + NEVER_CAUGHT + ")\\b.*");
+        CHECKS.due("the source catches what the machine throws", caught, false);
     }
 }

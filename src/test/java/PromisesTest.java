@@ -3,65 +3,27 @@ import java.util.function.IntUnaryOperator;
 /** The promises one by one, with answers worked out by hand: the ordinary, the edges, the wrong. */
 public final class PromisesTest {
     private static final Checks CHECKS = new Checks("PromisesTest");
-    private static final int BAD = -1, NONE = -2, FULL = -3;
-    private static final int[] WILD = {
-        Integer.MIN_VALUE, Integer.MIN_VALUE + 1, -1000, -17, -4, -3, -2,
-        401, 1048577, Integer.MAX_VALUE - 1, Integer.MAX_VALUE,
-    };
+    private static final int BAD = Subject.BAD, NONE = Subject.NONE, FULL = Subject.FULL;
 
     public static void main(String[] args) {
-        promise1NewObject();
-        promise2Sign();
-        promise3Wipe();
-        promise4Order();
-        promise5Context();
-        promise6Count();
-        promise7Log();
-        promise7LogEnclosesTheTrueOne();
-        promise8Weight();
-        promise9Share();
-        promise10CostOfContent();
-        promise10CostOfCross();
-        promise10CostOfGrowing();
-        promise10WrongCost();
-        promise11Digits();
-        promise12Width();
-        promise12TiesOfTrees();
-        promise12StepWidth();
-        promise13Bits();
-        promise14And15Factors();
-        promise14And15Phrases();
-        promise14And15Wrong();
-        promise16To18Grammar();
-        promise16To18Ties();
-        promise16To18Wrong();
-        promise19Length();
-        wildNumbers();
+        CHECKS.runTestsOf(PromisesTest.class);
         CHECKS.end();
     }
 
-    private static EntropyBounds of(int... signs) {
-        EntropyBounds x = new EntropyBounds();
-        for (int s : signs) {
-            x.sign(s);
-        }
-        return x;
+    private static Subject of(int... signs) {
+        return Subject.of(signs);
     }
 
-    private static EntropyBounds filled(int size, IntUnaryOperator signAt) {
-        EntropyBounds x = new EntropyBounds();
-        for (int p = 0; p < size; p++) {
-            x.sign(signAt.applyAsInt(p));
-        }
-        return x;
+    private static Subject filled(int size, IntUnaryOperator signAt) {
+        return Subject.filled(size, signAt);
     }
 
     private static void due(String call, long got, long want) {
         CHECKS.due(call, got, want);
     }
 
-    private static void promise1NewObject() {
-        EntropyBounds x = new EntropyBounds();
+    private static void promise01NewObject() {
+        Subject x = new Subject();
         due("length of a new one", x.length(), 0);
         for (int s = 0; s < 16; s++) {
             due("weight of a new one", x.weight(s, 0), 0);
@@ -72,12 +34,12 @@ public final class PromisesTest {
         due("count of a new one", x.count(0, -1), BAD);
         x.sign(5);
         due("the order is 0 at first", x.count(0, -1), 1);
-        due("a second one has its own text", new EntropyBounds().length(), 0);
+        due("a second one has its own text", new Subject().length(), 0);
         due("the first one keeps its text", x.length(), 1);
     }
 
-    private static void promise2Sign() {
-        EntropyBounds x = new EntropyBounds();
+    private static void promise02Sign() {
+        Subject x = new Subject();
         due("sign(-1)", x.sign(-1), BAD);
         due("sign(16)", x.sign(16), BAD);
         due("length after wrong signs", x.length(), 0);
@@ -93,8 +55,8 @@ public final class PromisesTest {
         due("the sign is there", x.count(0, 15), 1);
     }
 
-    private static void promise3Wipe() {
-        EntropyBounds x = of(1, 2, 1, 2, 1);
+    private static void promise03Wipe() {
+        Subject x = of(1, 2, 1, 2, 1);
         x.weight(1, 7);
         x.order(2);
         due("wipe", x.wipe(), 5);
@@ -112,8 +74,8 @@ public final class PromisesTest {
         due("the weights stay", x.weight(1, 0), 7);
     }
 
-    private static void promise4Order() {
-        EntropyBounds x = of(0, 0, 0, 1, 0, 0, 0, 1);
+    private static void promise04Order() {
+        Subject x = of(0, 0, 0, 1, 0, 0, 0, 1);
         due("order(0)", x.order(0), 1);
         due("order(1)", x.order(1), 2);
         due("order(2)", x.order(2), 3);
@@ -121,7 +83,7 @@ public final class PromisesTest {
         due("order(4)", x.order(4), BAD);
         due("order(-1)", x.order(-1), BAD);
         due("a wrong order changes nothing", x.context(3, 0), 1);
-        EntropyBounds y = of(4, 5, 6);
+        Subject y = of(4, 5, 6);
         due("as many signs as the order", y.order(3), 0);
         y.sign(7);
         due("one sign more", y.order(3), 1);
@@ -129,8 +91,8 @@ public final class PromisesTest {
     }
 
     /** Every pair of signs stands in it, once as a context of order 2. */
-    private static EntropyBounds pairsOfSigns() {
-        EntropyBounds x = new EntropyBounds();
+    private static Subject pairsOfSigns() {
+        Subject x = new Subject();
         for (int a = 0; a < 16; a++) {
             x.sign(a);
             for (int b = a + 1; b < 16; b++) {
@@ -143,8 +105,8 @@ public final class PromisesTest {
         return x;
     }
 
-    private static void promise5Context() {
-        EntropyBounds x = of(3, 1, 2, 3, 1, 15, 0);
+    private static void promise05Context() {
+        Subject x = of(3, 1, 2, 3, 1, 15, 0);
         due("order 0 has no sign", x.context(0, 0), BAD);
         x.order(2);
         int[][] contexts = {{3, 1}, {1, 2}, {2, 3}, {1, 15}};
@@ -163,8 +125,8 @@ public final class PromisesTest {
         due("a new sign brings a context", x.context(4, 2), 0);
     }
 
-    private static void promise6Count() {
-        EntropyBounds x = of(0, 1, 0, 2, 0, 1, 0);
+    private static void promise06Count() {
+        Subject x = of(0, 1, 0, 2, 0, 1, 0);
         due("count(0, 0)", x.count(0, 0), 4);
         due("count(0, -1)", x.count(0, -1), 7);
         due("count(0, 3)", x.count(0, 3), 0);
@@ -184,8 +146,8 @@ public final class PromisesTest {
         due("all behind 0 then", x.count(0, -1), 4);
     }
 
-    private static void promise7Log() {
-        EntropyBounds x = new EntropyBounds();
+    private static void promise07Log() {
+        Subject x = new Subject();
         for (int e = 0; e <= 20; e++) {
             for (int d = 0; d <= 24; d += 8) {
                 due("LOW of 2^" + e, x.log(1 << e, d, 0), (long) e << d);
@@ -206,9 +168,9 @@ public final class PromisesTest {
         due("log(3, 3, 2)", x.log(3, 3, 2), BAD);
     }
 
-    private static void promise7LogEnclosesTheTrueOne() {
-        EntropyBounds x = new EntropyBounds();
+    private static void promise07LogEnclosesTheTrueOne() {
         for (int n = 1; n <= 1048576; n = n < 2000 ? n + 1 : n + n / 100) {
+            Subject x = new Subject();
             double log = Math.log(n) / Math.log(2);
             for (int d : new int[] {0, 5, 24}) {
                 double parts = Math.scalb(log, d);
@@ -220,8 +182,8 @@ public final class PromisesTest {
         }
     }
 
-    private static void promise8Weight() {
-        EntropyBounds x = new EntropyBounds();
+    private static void promise08Weight() {
+        Subject x = new Subject();
         due("weight(0, 1000)", x.weight(0, 1000), 0);
         due("weight(0, 0)", x.weight(0, 0), 1000);
         due("weight(15, 3)", x.weight(15, 3), 0);
@@ -233,38 +195,38 @@ public final class PromisesTest {
         due("the weights say no length", x.length(), 0);
     }
 
-    private static void promise9Share() {
-        EntropyBounds x = new EntropyBounds();
-        CHECKS.due("share of no sum", Checks.share(x, 15), "ArithmeticException");
-        CHECKS.due("no such sign comes first", Checks.share(x, 16), "ArrayIndexOutOfBoundsException");
-        CHECKS.due("share(-1)", Checks.share(x, -1), "ArrayIndexOutOfBoundsException");
+    private static void promise09Share() {
+        Subject x = new Subject();
+        CHECKS.due("share of no sum", x.share(15), Subject.NO_QUOTIENT);
+        CHECKS.due("no such sign comes first", x.share(16), Subject.NO_INDEX);
+        CHECKS.due("share(-1)", x.share(-1), Subject.NO_INDEX);
         x.weight(3, 1);
         x.weight(4, 2);
-        CHECKS.due("share(3)", Checks.share(x, 3), 333333);
-        CHECKS.due("share(4)", Checks.share(x, 4), 666666);
-        CHECKS.due("share(5)", Checks.share(x, 5), 0);
-        CHECKS.due("share(16)", Checks.share(x, 16), "ArrayIndexOutOfBoundsException");
+        CHECKS.due("share(3)", x.share(3), 333333);
+        CHECKS.due("share(4)", x.share(4), 666666);
+        CHECKS.due("share(5)", x.share(5), 0);
+        CHECKS.due("share(16)", x.share(16), Subject.NO_INDEX);
         x.weight(4, 0);
-        CHECKS.due("share of the only weight", Checks.share(x, 3), 1000000);
+        CHECKS.due("share of the only weight", x.share(3), 1000000);
         x.weight(3, 0);
-        CHECKS.due("share of a sum of 0 again", Checks.share(x, 3), "ArithmeticException");
+        CHECKS.due("share of a sum of 0 again", x.share(3), Subject.NO_QUOTIENT);
         for (int s = 0; s < 16; s++) {
             x.weight(s, 1000);
         }
-        CHECKS.due("share of the greatest sum", Checks.share(x, 0), 62500);
+        CHECKS.due("share of the greatest sum", x.share(0), 62500);
     }
 
     private static void promise10CostOfContent() {
-        EntropyBounds x = of(0, 1, 0, 1);
+        Subject x = of(0, 1, 0, 1);
         due("powers of 2 are exact, LOW", x.cost(0, 3, 0), 32);
         due("powers of 2 are exact, HIGH", x.cost(0, 3, 1), 32);
         x.order(1);
         due("no content behind the sign before", x.cost(0, 24, 1), 0);
-        EntropyBounds y = of(0, 0, 0, 1);
+        Subject y = of(0, 0, 0, 1);
         // Of 0: 3 times 2 less the log of 3, between 1 and 2; of 1: 2.
         due("LOW of 3 and 1", y.cost(0, 0, 0), 2);
         due("HIGH of 3 and 1", y.cost(0, 0, 1), 5);
-        EntropyBounds z = filled(7, p -> p < 6 ? 0 : 1);
+        Subject z = filled(7, p -> p < 6 ? 0 : 1);
         // LOW of 7 is 2, HIGH of 6 is 3: below 0 counts as 0; LOW of 7 less HIGH of 1 is 2.
         due("LOW is not below 0", z.cost(0, 0, 0), 2);
         due("HIGH beside it", z.cost(0, 0, 1), 6 * (3 - 2) + 3);
@@ -272,7 +234,7 @@ public final class PromisesTest {
     }
 
     private static void promise10CostOfCross() {
-        EntropyBounds x = of(0, 1, 1);
+        Subject x = of(0, 1, 1);
         due("no weights", x.cost(1, 3, 0), NONE);
         x.weight(0, 4);
         due("not all weights", x.cost(1, 3, 0), NONE);
@@ -299,13 +261,13 @@ public final class PromisesTest {
         due("the same sign again, HIGH", of(7, 7).cost(2, 0, 1), 8);
         due("another sign, LOW", of(7, 8).cost(2, 0, 0), 8);
         due("another sign, HIGH", of(7, 8).cost(2, 0, 1), 9);
-        EntropyBounds x = of(7, 8);
+        Subject x = of(7, 8);
         x.order(3);
         due("the order does not matter", x.cost(2, 0, 1), 9);
     }
 
     private static void promise10WrongCost() {
-        EntropyBounds x = of(1, 2, 3);
+        Subject x = of(1, 2, 3);
         due("cost(-1, 0, 0)", x.cost(-1, 0, 0), BAD);
         due("cost(3, 0, 0)", x.cost(3, 0, 0), BAD);
         for (int kind = 0; kind < 3; kind++) {
@@ -317,7 +279,7 @@ public final class PromisesTest {
     }
 
     private static void promise11Digits() {
-        EntropyBounds x = of(0, 0, 0, 1);
+        Subject x = of(0, 0, 0, 1);
         // HIGH less LOW is 3 to any digits: 3 times 1024 is not above w 2^digits.
         due("digits(0, 3072)", x.digits(0, 3072), 0);
         due("digits(0, 3071)", x.digits(0, 3071), 1);
@@ -339,12 +301,12 @@ public final class PromisesTest {
     }
 
     private static void promise12Width() {
-        EntropyBounds x = of(9, 9, 9);
+        Subject x = of(9, 9, 9);
         due("one alone", x.width(0, 9), 1);
         due("not there", x.width(0, 8), 0);
         x.sign(8);
         due("two", x.width(0, 8) * 10 + x.width(0, 9), 11);
-        EntropyBounds y = filled(15, p -> p < 8 ? 0 : p < 12 ? 1 : p < 14 ? 2 : 3);
+        Subject y = filled(15, p -> p < 8 ? 0 : p < 12 ? 1 : p < 14 ? 2 : 3);
         int[] widths = {1, 2, 3, 3};
         for (int s = 0; s < 4; s++) {
             due("width of " + s, y.width(0, s), widths[s]);
@@ -354,24 +316,24 @@ public final class PromisesTest {
         due("width(0, -1)", y.width(0, -1), BAD);
         due("width(0, 16)", y.width(0, 16), BAD);
         due("width(1, 16)", y.width(1, 16), BAD);
-        EntropyBounds z = filled(16, p -> p);
+        Subject z = filled(16, p -> p);
         for (int s = 0; s < 16; s++) {
             due("all signs once", z.width(0, s), 4);
         }
     }
 
     private static void promise12TiesOfTrees() {
-        EntropyBounds x = of(0, 1, 2, 2, 3, 3);
+        Subject x = of(0, 1, 2, 2, 3, 3);
         for (int s = 0; s < 4; s++) {
             due("a joined tree comes behind all others", x.width(0, s), 2);
         }
-        EntropyBounds y = of(2, 1, 0);
+        Subject y = of(2, 1, 0);
         due("signs by their order, 0", y.width(0, 0), 2);
         due("signs by their order, 1", y.width(0, 1), 2);
         due("signs by their order, 2", y.width(0, 2), 1);
         // The widest: each number is above the sum of all before it.
         int[] numbers = {1, 1, 2, 4, 8, 16, 32, 64, 128};
-        EntropyBounds z = new EntropyBounds();
+        Subject z = new Subject();
         for (int s = 0; s < numbers.length; s++) {
             for (int i = 0; i < numbers[s]; i++) {
                 z.sign(s);
@@ -381,7 +343,7 @@ public final class PromisesTest {
     }
 
     private static void promise12StepWidth() {
-        EntropyBounds x = filled(400, p -> p == 0 ? 1 : p < 50 ? 2 : 3);
+        Subject x = filled(400, p -> p == 0 ? 1 : p < 50 ? 2 : 3);
         due("1 of 400", x.width(1, 1), 9);
         due("49 of 400", x.width(1, 2), 4);
         due("350 of 400", x.width(1, 3), 1);
@@ -392,7 +354,7 @@ public final class PromisesTest {
     }
 
     private static void promise13Bits() {
-        EntropyBounds x = filled(15, p -> p < 8 ? 0 : p < 12 ? 1 : p < 14 ? 2 : 3);
+        Subject x = filled(15, p -> p < 8 ? 0 : p < 12 ? 1 : p < 14 ? 2 : 3);
         due("bits(0)", x.bits(0), 8 + 4 * 2 + 2 * 3 + 3);
         due("bits(1)", x.bits(1), 8 + 4 * 2 + 2 * 3 + 4);
         due("bits(2)", x.bits(2), BAD);
@@ -401,7 +363,7 @@ public final class PromisesTest {
         due("bits(1) of one alone", of(3, 3, 3).bits(1), 0);
     }
 
-    private static void duePieces(EntropyBounds x, int kind, int[]... want) {
+    private static void duePieces(Subject x, int kind, int[]... want) {
         due("pieces(" + kind + ")", x.pieces(kind), want.length);
         for (int i = 0; i < want.length; i++) {
             for (int what = 0; what < 3; what++) {
@@ -434,14 +396,14 @@ public final class PromisesTest {
         duePieces(of(4, 4, 4, 4, 4), 1, row(0, 1, NONE), row(1, 2, 0), row(3, 2, 1));
         duePieces(of(4, 4), 1, row(0, 1, NONE), row(1, 1, 0));
         duePieces(of(4), 1, row(0, 1, NONE));
-        EntropyBounds x = of(4, 4);
+        Subject x = of(4, 4);
         x.pieces(1);
         x.sign(5);
         duePieces(x, 1, row(0, 1, NONE), row(1, 2, 0));
     }
 
     private static void promise14And15Wrong() {
-        EntropyBounds x = of(4, 4, 4);
+        Subject x = of(4, 4, 4);
         due("pieces(-1)", x.pieces(-1), BAD);
         due("pieces(2)", x.pieces(2), BAD);
         due("piece(-1, 0, 0)", x.piece(-1, 0, 0), BAD);
@@ -454,7 +416,7 @@ public final class PromisesTest {
         }
     }
 
-    private static void dueGrammar(EntropyBounds x, int[] row, int[]... rules) {
+    private static void dueGrammar(Subject x, int[] row, int[]... rules) {
         due("grammar(0)", x.grammar(0), row.length + 2 * rules.length);
         due("grammar(1)", x.grammar(1), rules.length);
         due("grammar(2)", x.grammar(2), row.length);
@@ -463,10 +425,10 @@ public final class PromisesTest {
             due("rule(" + (16 + i) + ", 1)", x.rule(16 + i, 1), rules[i][1]);
         }
         for (int i = 0; i < row.length; i++) {
-            CHECKS.due("symbol(" + i + ")", Checks.symbol(x, i), row[i]);
+            CHECKS.due("symbol(" + i + ")", x.symbol(i), row[i]);
         }
         due("no rule behind the last", x.rule(16 + rules.length, 0), BAD);
-        CHECKS.due("no symbol behind the last", Checks.symbol(x, row.length), "ArrayIndexOutOfBoundsException");
+        CHECKS.due("no symbol behind the last", x.symbol(row.length), Subject.NO_INDEX);
     }
 
     private static void promise16To18Grammar() {
@@ -477,7 +439,7 @@ public final class PromisesTest {
         dueGrammar(of(5, 5, 5, 5, 5), row(16, 16, 5), row(5, 5));
         dueGrammar(of(5, 5, 5, 5, 5, 5, 5, 5), row(17, 17), row(5, 5), row(16, 16));
         dueGrammar(of(3, 4, 3, 4, 9, 3, 4), row(16, 16, 9, 16), row(3, 4));
-        EntropyBounds x = of(5, 5, 5);
+        Subject x = of(5, 5, 5);
         x.grammar(0);
         x.sign(5);
         dueGrammar(x, row(16, 16), row(5, 5));
@@ -498,20 +460,20 @@ public final class PromisesTest {
     }
 
     private static void promise16To18Wrong() {
-        EntropyBounds x = of(5, 5, 5, 5);
+        Subject x = of(5, 5, 5, 5);
         due("grammar(-1)", x.grammar(-1), BAD);
         due("grammar(3)", x.grammar(3), BAD);
         due("rule(15, 0)", x.rule(15, 0), BAD);
         due("rule(17, 0)", x.rule(17, 0), BAD);
         due("rule(16, -1)", x.rule(16, -1), BAD);
         due("rule(16, 2)", x.rule(16, 2), BAD);
-        CHECKS.due("symbol(-1)", Checks.symbol(x, -1), "ArrayIndexOutOfBoundsException");
-        CHECKS.due("symbol(2)", Checks.symbol(x, 2), "ArrayIndexOutOfBoundsException");
-        CHECKS.due("symbol of no text", Checks.symbol(new EntropyBounds(), 0), "ArrayIndexOutOfBoundsException");
+        CHECKS.due("symbol(-1)", x.symbol(-1), Subject.NO_INDEX);
+        CHECKS.due("symbol(2)", x.symbol(2), Subject.NO_INDEX);
+        CHECKS.due("symbol of no text", new Subject().symbol(0), Subject.NO_INDEX);
     }
 
     private static void promise19Length() {
-        EntropyBounds x = new EntropyBounds();
+        Subject x = new Subject();
         for (int p = 0; p < 5; p++) {
             due("length", x.length(), p);
             x.sign(p);
@@ -520,38 +482,5 @@ public final class PromisesTest {
         due("length after a wrong sign", x.length(), 5);
         x.wipe();
         due("length after a wipe", x.length(), 0);
-    }
-
-    /** No number, however far out, is answered by more than BAD or the named exception. */
-    private static void wildNumbers() {
-        EntropyBounds x = filled(400, p -> p * p % 16);
-        for (int n : WILD) {
-            due("sign", x.sign(n), BAD);
-            due("order", x.order(n), BAD);
-            due("context", x.context(n, 0), BAD);
-            due("context's sign", x.context(0, n), BAD);
-            due("count", x.count(n, 0), BAD);
-            due("count's sign", x.count(0, n), BAD);
-            due("log's digits", x.log(3, n, 0), BAD);
-            due("log's side", x.log(3, 3, n), BAD);
-            due("weight's sign", x.weight(n, 1), BAD);
-            due("cost's kind", x.cost(n, 0, 0), BAD);
-            due("cost's digits", x.cost(1, n, 0), BAD);
-            due("cost's side", x.cost(1, 0, n), BAD);
-            due("digits' kind", x.digits(n, 1), BAD);
-            due("width's kind", x.width(n, 0), BAD);
-            due("width's sign", x.width(0, n), BAD);
-            due("bits", x.bits(n), BAD);
-            due("pieces", x.pieces(n), BAD);
-            due("piece's kind", x.piece(n, 0, 0), BAD);
-            due("piece", x.piece(1, n, 0), BAD);
-            due("piece's what", x.piece(1, 0, n), BAD);
-            due("grammar", x.grammar(n), BAD);
-            due("rule", x.rule(n, 0), BAD);
-            due("rule's side", x.rule(16, n), BAD);
-            CHECKS.due("share", Checks.share(x, n), "ArrayIndexOutOfBoundsException");
-            CHECKS.due("symbol", Checks.symbol(x, n), "ArrayIndexOutOfBoundsException");
-        }
-        due("nothing has changed", x.length(), 400);
     }
 }
