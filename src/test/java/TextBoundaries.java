@@ -488,6 +488,20 @@ final class TextBoundaries extends Boundaries {
         due("length behind a wipe", x.length(), 0);
     }
 
+    private static void promise19IsRightAtThe512thCall() {
+        Subject x = full();
+        x.wipe();
+        for (int p = 0; x.callsLeft() > 1; p++) {
+            due("sign", x.sign(p % 16), p + 1);
+        }
+        due("the 512th call", x.length(), 110);
+        Subject y = of(1, 2);
+        while (y.callsLeft() > 1) {
+            due("share", y.share(1), NO_QUOTIENT);
+        }
+        due("the 512th call behind exceptions", y.length(), 2);
+    }
+
     private static void promise19IsNotMovedByRefusedCalls() {
         Subject x = of(1, 2);
         x.sign(16);
