@@ -25,8 +25,8 @@ public final class ReadmeTest {
             if (row.matches()) {
                 called.add(row.group(1));
                 CHECKS.due(line, answerOf(x, row.group(1), numbersIn(row.group(2))), row.group(3));
-            } else {
-                CHECKS.due("a call without its answer: " + line, line.startsWith("x."), false);
+            } else if (line.startsWith("x.")) {
+                CHECKS.due(line, "no answer", "a call and its answer");
             }
         }
         for (Method method : EntropyBounds.class.getDeclaredMethods()) {
